@@ -234,7 +234,8 @@ public final class LabelPeople {
             if (sheet.given(person, row) != NONE || sheet.known(row) != NONE) {
                 continue;
             }
-            int lead = leadOn(row);
+            countVotes(row);
+            int lead = leadInTally();
             int given = sheet.givenOn(row);
             if (best == NONE || lead < bestLead || lead == bestLead && given < bestGiven) {
                 best = row;
@@ -309,12 +310,12 @@ public final class LabelPeople {
         if (sheet.known(row) != NONE) {
             return sheet.known(row);
         }
-        int winner = winnerOn(row);
+        countVotes(row);
+        int winner = winnerInTally();
         return winner != NONE ? winner : expertOn(row);
     }
 
-    private int winnerOn(int row) {
-        countVotes(row);
+    private int winnerInTally() {
         int winner = NONE;
         int most = 0;
         for (int label = 0; label < LABELS; label++) {
@@ -338,8 +339,7 @@ public final class LabelPeople {
         return NONE;
     }
 
-    private int leadOn(int row) {
-        countVotes(row);
+    private int leadInTally() {
         int most = 0;
         int second = 0;
         for (int label = 0; label < LABELS; label++) {
@@ -622,19 +622,15 @@ public final class LabelPeople {
             int second = sheet.feature(seconds[rule], row);
             switch (kinds[rule]) {
                 case 0:
-                    return second == 0 ? NO_QUOTIENT : asLabel(first / second);
+                    return second == 0 ? NO_QUOTIENT : Math.floorMod(first / second, LABELS);
                 case 1:
-                    return second == 0 ? NO_QUOTIENT : asLabel(first % second);
+                    return second == 0 ? NO_QUOTIENT : Math.floorMod(first % second, LABELS);
                 case 2:
                     int place = first + constants[rule];
-                    return isPlace(place) ? asLabel(places[place]) : NO_PLACE;
+                    return isPlace(place) ? Math.floorMod(places[place], LABELS) : NO_PLACE;
                 default:
                     return first < constants[rule] ? 0 : 1;
             }
-        }
-
-        private static int asLabel(int number) {
-            return Math.floorMod(number, LABELS);
         }
     }
 

@@ -17,6 +17,7 @@ public final class PromiseTest {
         promise10Turn();
         promise11Table();
         promise12Says();
+        promise12Features();
         promise12Abstaining();
         promise13Abstains();
         promise14Votes();
@@ -32,6 +33,7 @@ public final class PromiseTest {
         promise19Lead();
         promise20About();
         promise20Disputes();
+        fullRoom();
         CHECK.end();
     }
 
@@ -269,6 +271,22 @@ public final class PromiseTest {
         int[][] wrong = {{6, 0}, {-1, 0}, {0, 2}, {0, -1}, {LEAST, GREATEST}};
         for (int[] w : wrong) {
             CHECK.dueThrow("12 no such rule or row", () -> x.says(w[0], w[1]), IllegalArgumentException.class);
+        }
+    }
+
+    private static void promise12Features() {
+        LabelPeople x = new LabelPeople();
+        x.row(3, 1, 9, -2);
+        x.rule(3, 1, 0, 2);
+        x.rule(3, 0, 1, 2);
+        x.rule(1, 2, 1, 0);
+        x.rule(2, 1, 3, 1);
+        x.rule(0, 2, 3, 0);
+        x.rule(1, 2, 3, 0);
+        x.table(2, 3);
+        int[] want = {0, 1, 0, 3, 1, 1};
+        for (int rule = 0; rule < 6; rule++) {
+            due("12 features of says(" + rule + ", 0)", x.says(rule, 0), want[rule]);
         }
     }
 
@@ -593,6 +611,17 @@ public final class PromiseTest {
         due("19 a lead by one trust", y.next(7), 0);
         y.rule(3, 0, 0, 9);
         due("19 rules lead, too", y.next(7), 0);
+        LabelPeople z = new LabelPeople();
+        z.row(0, 0, 0, 0);
+        z.row(1, 0, 1, 0);
+        z.row(0, 0, 0, 0);
+        z.rule(0, 1, 0, 0);
+        z.rule(0, 2, 0, 0);
+        z.bound(1);
+        z.gold(2, 0);
+        z.label(0, 0, 0);
+        z.label(0, 2, 1);
+        due("19 no votes and a tie are alike", z.next(7), 1);
     }
 
     private static void promise20About() {
@@ -632,5 +661,51 @@ public final class PromiseTest {
         due("20 rows 0, 5 .. 7", x.about(7), 4);
         x.rule(0, 0, 1, 0);
         due("20 one that abstains", x.about(7), 4);
+        LabelPeople alike = withRows(1);
+        for (int rule = 0; rule < 6; rule++) {
+            alike.rule(3, 0, 0, 1);
+        }
+        due("20 six alike", alike.about(7), 0);
+        due("14 six alike", alike.votes(0, 0), 6);
+    }
+
+    /** Nothing goes astray at the last row, rule, person, label and place. */
+    private static void fullRoom() {
+        LabelPeople x = withRows(40);
+        for (int rule = 0; rule < 6; rule++) {
+            x.rule(rule % 4, 0, 0, 0);
+        }
+        for (int person = 0; person < 8; person++) {
+            for (int row = 0; row < 40; row++) {
+                due("3 in full", x.label(person, row, (row + person) % 5), 1);
+            }
+        }
+        int[] abstains = {1, 1, 32, 0, 1, 1};
+        for (int rule = 0; rule < 6; rule++) {
+            due("13 in full", x.abstains(rule), abstains[rule]);
+        }
+        due("20 labellings in full", x.about(1), 320);
+        due("14 in full", x.votes(39, 1), 20 + 3);
+        due("15 in full", x.decided(39), 1);
+        due("20 disputes in full", x.about(7), 40);
+        due("19 none left in full", x.next(7), NONE);
+        due("17 in full", x.agree(6, 7, 3), 0);
+        due("17 rows in full", x.agree(0, 5, 3), 40);
+        due("18 in full", x.all(3), 320);
+        due("18 rows in full", x.all(2), 40);
+        due("18 numerator in full", x.all(0), -13);
+        due("18 denominator in full", x.all(1), 112);
+        for (int row = 0; row < 40; row++) {
+            due("5 in full", x.gold(row, 4), NONE);
+        }
+        due("20 gold in full", x.about(4), 40);
+        due("20 decided in full", x.about(3), 40);
+        due("20 barred in full", x.about(6), 8);
+        due("16 in full", x.learn(20), 2);
+        for (int person = 0; person < 8; person++) {
+            due("8 wrong in full", x.person(person, 1), 32);
+            due("8 labelled in full", x.person(person, 3), 40);
+            due("16 trust in full", x.person(person, 0), 1 + 9 * 8 / 40);
+        }
     }
 }
