@@ -362,7 +362,9 @@ public final class LabelPeople {
         boolean changed = false;
         for (int person = 0; person < PERSONS; person++) {
             freshTrust[person] = earnedTrust(person);
-            changed |= freshTrust[person] != trust[person];
+            if (freshTrust[person] != trust[person]) {
+                changed = true;
+            }
         }
         System.arraycopy(freshTrust, 0, trust, 0, PERSONS);
         return changed;

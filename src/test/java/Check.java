@@ -6,6 +6,12 @@ final class Check {
 
     private int wrong;
     private int done;
+    private String words = "";
+
+    /** The words of the document that the checks after it hold to; each that fails is told with them. */
+    void sentence(String spoken) {
+        words = spoken + " -- ";
+    }
 
     void due(String call, long got, long want) {
         done++;
@@ -40,7 +46,7 @@ final class Check {
 
     void fail(String text) {
         wrong++;
-        System.out.println(text);
+        System.out.println(words + text);
     }
 
     void end() {

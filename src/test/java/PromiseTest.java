@@ -41,32 +41,6 @@ public final class PromiseTest {
         CHECK.due(call, got, want);
     }
 
-    private static LabelPeople withRows(int count) {
-        LabelPeople x = new LabelPeople();
-        for (int k = 0; k < count; k++) {
-            x.row(k, 0, 0, 0);
-        }
-        return x;
-    }
-
-    /** Each text is what one person says of rows 0, 1, ..: a digit, or a point where it says nothing. */
-    private static LabelPeople withWords(String... words) {
-        int rows = 0;
-        for (String word : words) {
-            rows = Math.max(rows, word.length());
-        }
-        LabelPeople x = withRows(rows);
-        for (int person = 0; person < words.length; person++) {
-            for (int row = 0; row < words[person].length(); row++) {
-                char c = words[person].charAt(row);
-                if (c != '.') {
-                    x.label(person, row, c - '0');
-                }
-            }
-        }
-        return x;
-    }
-
     private static void promise1New() {
         LabelPeople x = new LabelPeople();
         int[] start = {0, 0, 0, 0, 0, 3, 0, 0};
@@ -101,7 +75,7 @@ public final class PromiseTest {
     }
 
     private static void promise3Label() {
-        LabelPeople x = withRows(2);
+        LabelPeople x = Made.withRows(2);
         due("3 label", x.label(0, 0, 4), 1);
         due("3 again", x.label(0, 0, 4), 0);
         due("3 another one", x.label(0, 0, 1), 0);
@@ -125,7 +99,7 @@ public final class PromiseTest {
     }
 
     private static void promise4Said() {
-        LabelPeople x = withWords("01", ".2");
+        LabelPeople x = Made.withWords("01", ".2");
         due("4 said", x.said(0, 0), 0);
         due("4 said", x.said(0, 1), 1);
         due("4 said", x.said(1, 1), 2);
@@ -138,7 +112,7 @@ public final class PromiseTest {
     }
 
     private static void promise5Gold() {
-        LabelPeople x = withWords("0", "1");
+        LabelPeople x = Made.withWords("0", "1");
         due("5 gold", x.gold(0, 1), NONE);
         due("5 decided", x.decided(0), 1);
         due("5 wrong", x.person(0, 1), 1);
@@ -157,7 +131,7 @@ public final class PromiseTest {
     }
 
     private static void promise6Bound() {
-        LabelPeople x = withWords("000000000");
+        LabelPeople x = Made.withWords("000000000");
         due("6 at first", x.bound(1), 3);
         due("6 the highest", x.bound(9), 1);
         due("6 outside", x.bound(0), OUTSIDE);
@@ -187,7 +161,7 @@ public final class PromiseTest {
     }
 
     private static void promise8Person() {
-        LabelPeople x = withWords("0123", "0.2.");
+        LabelPeople x = Made.withWords("0123", "0.2.");
         x.gold(0, 1);
         x.gold(1, 1);
         x.gold(2, 0);
@@ -224,7 +198,7 @@ public final class PromiseTest {
     }
 
     private static void promise10Turn() {
-        LabelPeople x = withRows(1);
+        LabelPeople x = Made.withRows(1);
         x.rule(3, 0, 0, 5);
         due("10 it votes", x.votes(0, 0), 1);
         due("10 off", x.turn(0, false), 1);
@@ -326,7 +300,7 @@ public final class PromiseTest {
     }
 
     private static void promise13Abstains() {
-        LabelPeople x = withRows(12);
+        LabelPeople x = Made.withRows(12);
         x.rule(0, 1, 0, 0);
         x.rule(0, 0, 1, 0);
         x.rule(2, 0, 0, 0);
@@ -343,7 +317,7 @@ public final class PromiseTest {
     }
 
     private static void promise14Votes() {
-        LabelPeople x = withWords("0", "0", "3");
+        LabelPeople x = Made.withWords("0", "0", "3");
         x.rule(3, 0, 0, 9);
         x.rule(3, 0, 0, 0);
         x.rule(0, 0, 1, 0);
@@ -369,7 +343,7 @@ public final class PromiseTest {
     }
 
     private static void promise15Decided() {
-        LabelPeople x = withWords("0012.", "0121.", "1123.");
+        LabelPeople x = Made.withWords("0012.", "0121.", "1123.");
         int[] want = {0, 1, 2, NONE, NONE};
         for (int row = 0; row < want.length; row++) {
             due("15 decided(" + row + ")", x.decided(row), want[row]);
@@ -391,7 +365,7 @@ public final class PromiseTest {
     }
 
     private static void promise15Experts() {
-        LabelPeople x = withWords("01.", "10.", "..0", "...4");
+        LabelPeople x = Made.withWords("01.", "10.", "..0", "...4");
         due("15 open", x.decided(0), NONE);
         x.expert(7, true);
         due("15 this one did not label it", x.decided(0), NONE);
@@ -416,7 +390,7 @@ public final class PromiseTest {
     }
 
     private static void promise16Learn() {
-        LabelPeople x = withWords("0000", "0001", "0012", "1..3");
+        LabelPeople x = Made.withWords("0000", "0001", "0012", "1..3");
         due("16 outside", x.learn(0), OUTSIDE);
         due("16 outside", x.learn(21), OUTSIDE);
         due("16 outside", x.learn(-1), OUTSIDE);
@@ -451,7 +425,7 @@ public final class PromiseTest {
 
     /** Row 4 is open at first, and decided once the trust of its two persons has become unlike. */
     private static void promise16Rounds() {
-        LabelPeople x = withWords("00000", "00101", "0011.");
+        LabelPeople x = Made.withWords("00000", "00101", "0011.");
         int[][] trust = {{7, 10, 7}, {6, 10, 7}, {6, 10, 7}};
         for (int n = 1; n <= 3; n++) {
             due("16 learn(" + n + ")", x.learn(n), n);
@@ -462,7 +436,7 @@ public final class PromiseTest {
         due("16 the round without change is the last", x.learn(20), 3);
         due("16 trust starts at 10 each time", x.learn(1), 1);
         due("16 as in the first round", x.person(0, 0), 7);
-        LabelPeople y = withWords("0", "1");
+        LabelPeople y = Made.withWords("0", "1");
         due("16 nothing is decided", y.learn(20), 2);
         due("16 without any n", y.person(0, 0), 1);
         y.expert(1, true);
@@ -472,7 +446,7 @@ public final class PromiseTest {
     }
 
     private static void promise17Agree() {
-        LabelPeople x = withWords("00112.", "01112.", "...003");
+        LabelPeople x = Made.withWords("00112.", "01112.", "...003");
         long[] want = {11, 16, 5, 4};
         for (int what = 0; what < 4; what++) {
             due("17 agree(0, 1, " + what + ")", x.agree(0, 1, what), want[what]);
@@ -494,46 +468,46 @@ public final class PromiseTest {
     }
 
     private static void promise17Extremes() {
-        LabelPeople alike = withWords("0000", "0000");
+        LabelPeople alike = Made.withWords("0000", "0000");
         CHECK.dueThrow("17 one label alone", () -> alike.agree(0, 1, 0), ArithmeticException.class);
         CHECK.dueThrow("17 one label alone", () -> alike.agree(0, 1, 1), ArithmeticException.class);
         due("17 its rows", alike.agree(0, 1, 2), 4);
         due("17 its rows alike", alike.agree(0, 1, 3), 4);
-        LabelPeople full = withWords("01234", "01234");
+        LabelPeople full = Made.withWords("01234", "01234");
         due("17 in full", full.agree(0, 1, 0), 1);
         due("17 in full", full.agree(0, 1, 1), 1);
-        LabelPeople against = withWords("0101", "1010");
+        LabelPeople against = Made.withWords("0101", "1010");
         due("17 against", against.agree(0, 1, 0), -1);
         due("17 against", against.agree(0, 1, 1), 1);
-        LabelPeople below = withWords("001", "011");
+        LabelPeople below = Made.withWords("001", "011");
         below.bound(1);
         below.gold(0, 4);
         due("17 barred ones, too", below.agree(0, 1, 0), 2);
         due("17 cut down", below.agree(0, 1, 1), 5);
-        LabelPeople half = withWords("012", "120");
+        LabelPeople half = Made.withWords("012", "120");
         due("17 under chance", half.agree(0, 1, 0), -1);
         due("17 cut down, under chance", half.agree(0, 1, 1), 2);
     }
 
     private static void promise18All() {
-        LabelPeople x = withWords("012", "01.");
+        LabelPeople x = Made.withWords("012", "01.");
         due("18 in full", x.all(0), 1);
         due("18 in full", x.all(1), 1);
         due("18 rows", x.all(2), 2);
         due("18 labellings", x.all(3), 4);
         CHECK.dueThrow("18 what", () -> x.all(4), IllegalArgumentException.class);
         CHECK.dueThrow("18 what", () -> x.all(-1), IllegalArgumentException.class);
-        LabelPeople none = withWords("012");
+        LabelPeople none = Made.withWords("012");
         CHECK.dueThrow("18 no row", () -> none.all(0), ArithmeticException.class);
         CHECK.dueThrow("18 no row", () -> none.all(1), ArithmeticException.class);
         CHECK.dueThrow("18 what before 0", () -> none.all(4), IllegalArgumentException.class);
         due("18 no rows", none.all(2), 0);
         due("18 no labellings", none.all(3), 0);
-        LabelPeople one = withWords("001", "00.");
+        LabelPeople one = Made.withWords("001", "00.");
         CHECK.dueThrow("18 one label alone", () -> one.all(0), ArithmeticException.class);
         CHECK.dueThrow("18 one label alone", () -> one.all(1), ArithmeticException.class);
         due("18 its labellings", one.all(3), 4);
-        LabelPeople against = withWords("01", "10");
+        LabelPeople against = Made.withWords("01", "10");
         due("18 against", against.all(0), -1);
         due("18 against", against.all(1), 1);
         against.bound(1);
@@ -543,7 +517,7 @@ public final class PromiseTest {
 
     /** A row of eight and one of three: A = 360 + 280, C = 11, S = 25 + 36, so -25040 / 100800. */
     private static void promise18Pairs() {
-        LabelPeople x = withWords("00", "01", "01", "0", "1", "1", "1", "1");
+        LabelPeople x = Made.withWords("00", "01", "01", "0", "1", "1", "1", "1");
         due("18 rows", x.all(2), 2);
         due("18 labellings", x.all(3), 11);
         due("18 the numerator", x.all(0), -313);
@@ -590,7 +564,7 @@ public final class PromiseTest {
     }
 
     private static void promise19Lead() {
-        LabelPeople x = withWords("0.000", "0.111", "1.222", "..3.3");
+        LabelPeople x = Made.withWords("0.000", "0.111", "1.222", "..3.3");
         int[] order = {1, 3, 2, 4, 0};
         for (int row : order) {
             due("19 in its order", x.next(7), row);
@@ -599,7 +573,7 @@ public final class PromiseTest {
             x.gold(row, 4);
         }
         due("19 all done", x.next(7), NONE);
-        LabelPeople y = withWords("0", "1");
+        LabelPeople y = Made.withWords("0", "1");
         y.row(0, 0, 0, 0);
         y.bound(1);
         y.label(2, 1, 0);
@@ -625,7 +599,7 @@ public final class PromiseTest {
     }
 
     private static void promise20About() {
-        LabelPeople x = withWords("0011.", "00.2.", "0....");
+        LabelPeople x = Made.withWords("0011.", "00.2.", "0....");
         x.rule(0, 0, 1, 0);
         x.rule(0, 0, 1, 0);
         x.gold(0, 1);
@@ -645,7 +619,7 @@ public final class PromiseTest {
     }
 
     private static void promise20Disputes() {
-        LabelPeople x = withRows(10);
+        LabelPeople x = Made.withRows(10);
         x.rule(3, 0, 0, 5);
         due("20 one rule alone", x.about(7), 0);
         x.rule(3, 0, 0, 3);
@@ -661,7 +635,7 @@ public final class PromiseTest {
         due("20 rows 0, 5 .. 7", x.about(7), 4);
         x.rule(0, 0, 1, 0);
         due("20 one that abstains", x.about(7), 4);
-        LabelPeople alike = withRows(1);
+        LabelPeople alike = Made.withRows(1);
         for (int rule = 0; rule < 6; rule++) {
             alike.rule(3, 0, 0, 1);
         }
@@ -671,7 +645,7 @@ public final class PromiseTest {
 
     /** Nothing goes astray at the last row, rule, person, label and place. */
     private static void fullRoom() {
-        LabelPeople x = withRows(40);
+        LabelPeople x = Made.withRows(40);
         for (int rule = 0; rule < 6; rule++) {
             x.rule(rule % 4, 0, 0, 0);
         }
